@@ -256,7 +256,9 @@ public final class WidowWeight {
     }
 
     public int lift() {
-        return Doubts.bestPair(here, parts);
+        int lighter = Doubts.mayBeOff(here, Doubts.LIGHTER);
+        int heavier = Doubts.mayBeOff(here, Doubts.HEAVIER);
+        return (lighter | heavier) == 0 ? NONE : Doubts.bestPair(here, lighter, heavier, parts);
     }
 
     public int note(int k, int g, int d, int h) {
@@ -302,7 +304,11 @@ public final class WidowWeight {
     }
 
     public int watch(int k) {
-        return here.hasKeeper(k) ? Doubts.bestDay(here, k, parts) : refuseBad(BAD);
+        if (!here.hasKeeper(k)) {
+            return refuseBad(BAD);
+        }
+        int kinds = Doubts.kindsOfKeeper(here, k);
+        return kinds == 0 ? NONE : Doubts.bestDay(kinds, here.now.stones.at(k), parts);
     }
 
     public int who(int b) {
@@ -310,7 +316,11 @@ public final class WidowWeight {
     }
 
     public int lay(int b) {
-        return here.hasBalance(b) ? Doubts.bestGrains(here, b, parts) : refuseBad(BAD);
+        if (!here.hasBalance(b)) {
+            return refuseBad(BAD);
+        }
+        int kinds = Doubts.kindsOfBalance(here, b);
+        return kinds == 0 ? NONE : Doubts.bestGrains(kinds, parts);
     }
 
     public int buyers(int w, int k) {
@@ -500,7 +510,7 @@ public final class WidowWeight {
     }
 
     private static boolean hasBit(int bits, int i) {
-        return between(i, 0, 31) && (bits >> i & 1) == 1;
+        return i >= 0 && i < 32 && (bits >> i & 1) == 1;
     }
 
     /** Numbers in a row with room for so many; looks at every index, and tells 0 where there is none. */
@@ -583,24 +593,19 @@ public final class WidowWeight {
         }
     }
 
-    /** What the kinds of keepers say; each asks the kind that it stands under. */
+    /** What the kinds of keepers say, each by the kind that it stands under; MERRY (2) only tells that it never lends. */
     private static final class KeeperKinds {
-        private static final int PLAIN = 0, FADING = 1, MERRY = 2, MONDAY = 3, OLD = 4, WRAPPING = 5;
+        private static final int PLAIN = 0, FADING = 1, MONDAY = 3, OLD = 4, WRAPPING = 5;
 
+        /** PLAIN leaves a stone as it is, and so do those who stand under PLAIN and tell nothing else. */
         static int behind(int kind, int g, int d) {
             switch (kind) {
-                case PLAIN:
-                    return plainBehind(g);
                 case FADING:
                     return fadingBehind(g, d);
-                case MERRY:
-                    return plainBehind(g);
-                case MONDAY:
-                    return mondayBehind(g);
                 case OLD:
                     return fadingBehind(fadingBehind(g, d), d);
                 case WRAPPING:
-                    return wrappingBehind(g, d);
+                    return d % 3 == 0 ? Math.min(MOST_GRAINS, g + 1) : g;
                 default:
                     return g;
             }
@@ -609,15 +614,13 @@ public final class WidowWeight {
         static boolean lends(int kind, int d, int m, int f) {
             switch (kind) {
                 case PLAIN:
-                    return plainLends(m, f);
                 case FADING:
-                    return fadingLends(m, f);
+                    return plainLends(m, f);
                 case MONDAY:
-                    return mondayLends(d, m, f);
-                case OLD:
-                    return fadingLends(m, f) || m >= 8;
                 case WRAPPING:
-                    return mondayLends(d, m, f);
+                    return (d % 7 == 0 || f >= 5) && plainLends(m, f);
+                case OLD:
+                    return plainLends(m, f) || m >= 8;
                 default:
                     return false;
             }
@@ -643,32 +646,12 @@ public final class WidowWeight {
             return bits;
         }
 
-        private static int plainBehind(int g) {
-            return g;
-        }
-
         private static int fadingBehind(int g, int d) {
-            return Math.max(1, d % 2 == 0 ? plainBehind(g) - 1 : plainBehind(g));
-        }
-
-        private static int mondayBehind(int g) {
-            return plainBehind(g);
-        }
-
-        private static int wrappingBehind(int g, int d) {
-            return Math.min(MOST_GRAINS, d % 3 == 0 ? mondayBehind(g) + 1 : mondayBehind(g));
+            return d % 2 == 0 && g > 1 ? g - 1 : g;
         }
 
         private static boolean plainLends(int m, int f) {
             return m + f >= 5;
-        }
-
-        private static boolean fadingLends(int m, int f) {
-            return plainLends(m, f);
-        }
-
-        private static boolean mondayLends(int d, int m, int f) {
-            return (d % 7 == 0 || f >= 5) && plainLends(m, f);
         }
     }
 
@@ -695,7 +678,7 @@ public final class WidowWeight {
             }
         }
 
-        private static int trueTip(int l, int r) {
+        static int trueTip(int l, int r) {
             return Integer.compare(l, r);
         }
 
@@ -985,16 +968,18 @@ public final class WidowWeight {
         private static final int ROUND = LAST_HOUSE + 1;
 
         private final Row hoursLeft = new Row((1 << MOST_KEEPERS) * WIDTH);
-        private Row houses = new Row(0);
+        private final Row houses = new Row(WIDTH);
         private int told;
 
-        void plan(Row where, int keepers) {
-            houses = where;
+        void plan(Row homes, int keepers) {
+            settle(homes);
             told = keepers;
             hoursLeft.useAll();
             for (int left = 0; left <= told; left++) {
-                if ((left & ~told) == 0) {
-                    fill(left);
+                for (int at = 0; at <= START; at++) {
+                    if (mayStand(left, at)) {
+                        hoursLeft.put(left * WIDTH + at, leastHours(left, at));
+                    }
                 }
             }
         }
@@ -1007,22 +992,23 @@ public final class WidowWeight {
             int left = told;
             int at = START;
             for (int n = 0; n <= i && left != 0; n++) {
-                int next = firstBest(left, at);
-                left &= ~(1 << next);
-                at = next;
+                at = firstBest(left, at);
+                left &= ~(1 << at);
             }
             return at;
         }
 
-        private void fill(int left) {
-            for (int at = 0; at < MOST_KEEPERS; at++) {
-                if (hasBit(told & ~left, at)) {
-                    hoursLeft.put(left * WIDTH + at, leastHours(left, at));
-                }
+        /** The start stands behind the keepers, at house 0. */
+        private void settle(Row homes) {
+            houses.restart();
+            for (int at = 0; at < START; at++) {
+                houses.add(homes.at(at));
             }
-            if (left == told) {
-                hoursLeft.put(left * WIDTH + START, leastHours(left, START));
-            }
+            houses.add(0);
+        }
+
+        private boolean mayStand(int left, int at) {
+            return at == START ? left == told : (left & ~told) == 0 && hasBit(told & ~left, at);
         }
 
         private int leastHours(int left, int at) {
@@ -1030,18 +1016,16 @@ public final class WidowWeight {
         }
 
         private int firstBest(int left, int at) {
-            int best = NONE;
-            int least = 0;
+            int best = 0;
+            int least = Integer.MAX_VALUE;
             for (int k = 0; k < MOST_KEEPERS; k++) {
-                if (hasBit(left, k)) {
-                    int hours = hoursBy(left, at, k);
-                    if (best == NONE || hours < least) {
-                        best = k;
-                        least = hours;
-                    }
+                int hours = hasBit(left, k) ? hoursBy(left, at, k) : Integer.MAX_VALUE;
+                if (hours < least) {
+                    best = k;
+                    least = hours;
                 }
             }
-            return Math.max(best, 0);
+            return best;
         }
 
         private int hoursBy(int left, int at, int next) {
@@ -1053,12 +1037,8 @@ public final class WidowWeight {
         }
 
         private int way(int a, int b) {
-            int apart = Math.abs(houseOf(a) - houseOf(b));
+            int apart = Math.abs(houses.at(a) - houses.at(b));
             return Math.min(apart, ROUND - apart);
-        }
-
-        private int houseOf(int at) {
-            return at == START ? 0 : houses.at(at);
         }
     }
 
@@ -1115,12 +1095,7 @@ public final class WidowWeight {
             return bits;
         }
 
-        static int bestPair(Market market, Parts parts) {
-            int lighter = mayBeOff(market, LIGHTER);
-            int heavier = mayBeOff(market, HEAVIER);
-            if ((lighter | heavier) == 0) {
-                return NONE;
-            }
+        static int bestPair(Market market, int lighter, int heavier, Parts parts) {
             int best = NONE;
             int least = 0;
             for (int i = 0; i < market.keeperCount(); i++) {
@@ -1147,18 +1122,14 @@ public final class WidowWeight {
             return bits;
         }
 
-        static int bestDay(Market market, int k, Parts parts) {
-            int kinds = kindsOfKeeper(market, k);
-            if (kinds == 0) {
-                return NONE;
-            }
+        static int bestDay(int kinds, int g, Parts parts) {
             int best = NONE;
             int least = 0;
             for (int d = 0; d <= LAST_WATCHED; d++) {
                 parts.restart();
                 for (int kind = 0; kind < KINDS; kind++) {
                     if (hasBit(kinds, kind)) {
-                        parts.add(KeeperKinds.behind(kind, market.now.stones.at(k), d));
+                        parts.add(KeeperKinds.behind(kind, g, d));
                     }
                 }
                 if (best == NONE || parts.greatestPart() < least) {
@@ -1179,11 +1150,7 @@ public final class WidowWeight {
             return bits;
         }
 
-        static int bestGrains(Market market, int b, Parts parts) {
-            int kinds = kindsOfBalance(market, b);
-            if (kinds == 0) {
-                return NONE;
-            }
+        static int bestGrains(int kinds, Parts parts) {
             int best = NONE;
             int least = 0;
             for (int l = 0; l <= MOST_LAID; l++) {
@@ -1228,7 +1195,7 @@ public final class WidowWeight {
         private static int tipIfOff(Row helds, int left, int right, int k, int by) {
             int l = helds.sumOf(left) + (hasBit(left, k) ? by : 0);
             int r = helds.sumOf(right) + (hasBit(right, k) ? by : 0);
-            return BalanceKinds.tip(BalanceKinds.TRUE, l, r);
+            return BalanceKinds.trueTip(l, r);
         }
 
         private static boolean fitsNotes(Row notes, int k, int kind) {
@@ -1310,129 +1277,134 @@ public final class WidowWeight {
     /** Reads the text into a market of its own, so that a fault leaves the other as it was. */
     private static final class TextReader {
         private static final int END = 0, WORD = 1, NUMBER = 2, STOP = 3, STRANGE = 4;
+        private static final int MARKET = 0, KEEPER = 1, MOOD = 2, BALANCE = 3, DAYS = 4;
         private static final int MOST_NUMBER = 99;
 
         final Market told = new Market();
 
         private final Row text;
+        private final Row numbers = new Row(3);
         private int token;
         private int start;
         private int next;
         private int value;
+        private int word;
         private int items;
 
         TextReader(Row text) {
             this.text = text;
         }
 
-        /** How many items, or -10 less the fault; a step that fails leaves the token at fault where it stands. */
+        /** How many items, or -10 less the fault: an item that fails stops at the token that can not stand there. */
         int readMarket() {
             told.restart();
             items = 0;
             next = 0;
             step();
-            boolean fine = marketItem();
+            boolean fine = true;
             // Each item takes some bytes, so there are fewer of them than bytes.
-            for (int i = 0; i < MOST_BYTES && fine && token != END; i++) {
+            for (int i = 0; i < MOST_BYTES && fine && (items == 0 || token != END); i++) {
                 fine = item();
+                if (fine) {
+                    carryOut();
+                }
             }
             return fine ? items : BAD_AT_PLACE - start;
         }
 
-        private boolean marketItem() {
-            if (!isWord("market")) {
-                return false;
-            }
-            step();
-            return endItem();
-        }
-
         private boolean item() {
-            if (isWord("keeper")) {
-                return keeperItem();
-            }
-            if (isWord("mood")) {
-                return moodItem();
-            }
-            if (isWord("balance")) {
-                return balanceItem();
-            }
-            return isWord("days") && daysItem();
-        }
-
-        private boolean keeperItem() {
-            if (told.kinds.isFull()) {
+            word = wordTold();
+            if (!wordMayStand()) {
                 return false;
             }
             step();
-            int kind = takeNumber(0, KINDS - 1);
-            int house = kind == NONE ? NONE : takeNumber(0, LAST_HOUSE);
-            int g = house == NONE ? NONE : takeNumber(1, MOST_NUMBER);
-            if (g == NONE) {
-                return false;
+            numbers.restart();
+            for (int i = 0; i < numbersDue(); i++) {
+                if (token != NUMBER || !numberMayStand(i)) {
+                    return false;
+                }
+                numbers.add(value);
+                step();
             }
-            told.addKeeper(kind, house, g);
-            return endItem();
-        }
-
-        private boolean moodItem() {
-            step();
-            int k = takeNumber(0, told.keeperCount() - 1);
-            int mood = k == NONE ? NONE : takeNumber(0, MOST_MOOD);
-            if (mood == NONE) {
-                return false;
-            }
-            told.now.moods.put(k, mood);
-            return endItem();
-        }
-
-        private boolean balanceItem() {
-            if (told.balances.isFull()) {
-                return false;
-            }
-            step();
-            int kind = takeNumber(0, KINDS - 1);
-            if (kind == NONE) {
-                return false;
-            }
-            told.balances.add(kind);
-            return endItem();
-        }
-
-        private boolean daysItem() {
-            step();
-            int n = takeNumber(1, MOST_DAYS);
-            if (n == NONE) {
-                return false;
-            }
-            told.passDays(n);
-            return endItem();
-        }
-
-        private boolean endItem() {
             if (token != STOP) {
                 return false;
             }
-            items++;
             step();
             return true;
         }
 
-        private int takeNumber(int low, int high) {
-            if (token != NUMBER || !between(value, low, high)) {
-                return NONE;
+        private void carryOut() {
+            items++;
+            switch (word) {
+                case KEEPER:
+                    told.addKeeper(numbers.at(0), numbers.at(1), numbers.at(2));
+                    break;
+                case MOOD:
+                    told.now.moods.put(numbers.at(0), numbers.at(1));
+                    break;
+                case BALANCE:
+                    told.balances.add(numbers.at(0));
+                    break;
+                case DAYS:
+                    told.passDays(numbers.at(0));
+                    break;
+                default:
+                    break;
             }
-            int number = value;
-            step();
-            return number;
         }
 
-        private boolean isWord(String word) {
-            if (token != WORD || next - start != word.length()) {
+        private boolean wordMayStand() {
+            switch (word) {
+                case MARKET:
+                    return items == 0;
+                case KEEPER:
+                    return items > 0 && !told.kinds.isFull();
+                case BALANCE:
+                    return items > 0 && !told.balances.isFull();
+                default:
+                    return items > 0 && word != NONE;
+            }
+        }
+
+        private int numbersDue() {
+            return word == MARKET ? 0 : word == KEEPER ? 3 : word == MOOD ? 2 : 1;
+        }
+
+        private boolean numberMayStand(int i) {
+            switch (word) {
+                case KEEPER:
+                    return i == 0 ? isKind(value) : between(value, i == 1 ? 0 : 1, i == 1 ? LAST_HOUSE : MOST_NUMBER);
+                case MOOD:
+                    return i == 0 ? told.hasKeeper(value) : between(value, 0, MOST_MOOD);
+                case BALANCE:
+                    return isKind(value);
+                default:
+                    return between(value, 1, MOST_DAYS);
+            }
+        }
+
+        private int wordTold() {
+            if (isWord("market")) {
+                return MARKET;
+            }
+            if (isWord("keeper")) {
+                return KEEPER;
+            }
+            if (isWord("mood")) {
+                return MOOD;
+            }
+            if (isWord("balance")) {
+                return BALANCE;
+            }
+            return isWord("days") ? DAYS : NONE;
+        }
+
+        private boolean isWord(String name) {
+            if (token != WORD || next - start != name.length()) {
                 return false;
             }
-            for (int i = 0; i < word.length(); i++) {
-                if (text.at(start + i) != word.charAt(i)) {
+            for (int i = 0; i < name.length(); i++) {
+                if (text.at(start + i) != name.charAt(i)) {
                     return false;
                 }
             }
@@ -1440,22 +1412,19 @@ public final class WidowWeight {
         }
 
         private void step() {
-            skipBlanks();
-            start = next;
-            if (start >= text.size()) {
-                token = END;
-            } else if (isLetter(text.at(start))) {
-                takeLetters();
-            } else if (isFigure(text.at(start))) {
-                takeFigures();
-            } else {
-                token = text.at(start) == ';' ? STOP : STRANGE;
+            while (next < text.size() && text.at(next) == ' ') {
                 next++;
             }
-        }
-
-        private void skipBlanks() {
-            while (next < text.size() && text.at(next) == ' ') {
+            start = next;
+            int first = text.at(start);
+            if (start >= text.size()) {
+                token = END;
+            } else if (isLetter(first)) {
+                takeLetters();
+            } else if (isFigure(first)) {
+                takeFigures();
+            } else {
+                token = first == ';' ? STOP : STRANGE;
                 next++;
             }
         }
@@ -1478,11 +1447,11 @@ public final class WidowWeight {
         }
 
         private static boolean isLetter(int c) {
-            return between(c, 'a', 'z');
+            return c >= 'a' && c <= 'z';
         }
 
         private static boolean isFigure(int c) {
-            return between(c, '0', '9');
+            return c >= '0' && c <= '9';
         }
     }
 }

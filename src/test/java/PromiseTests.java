@@ -176,11 +176,16 @@ public final class PromiseTests {
         due("the status stays", x.status(0), 1);
         due("an image stays", x.from(1), 1);
         due("from the image", x.count(0), 2);
+        x.held(0, 33);
+        due("lent", x.visit(0, 9), 1);
         due("market", x.market(), 2);
+        due("none is lent", x.count(3), 0);
         due("market again", x.market(), 0);
         due("keepers come anew", x.keeper(2, 1, 9), 0);
-        due("mood", x.of(0, 4), 5);
-        due("lent", x.of(0, 5), 0);
+        int[] anew = {2, 1, 9, 9, 5, 0};
+        for (int what = 0; what <= 5; what++) {
+            due("of 0 " + what, x.of(0, what), anew[what]);
+        }
     }
 
     private static void keeper() {
@@ -307,6 +312,9 @@ public final class PromiseTests {
         fault("market", 6);
         fault("market  ", 8);
         fault("mark", 0);
+        fault("parket;", 0);
+        fault("markez;", 0);
+        fault("market;nood 0 0;", 7);
         fault("Market;", 0);
         fault("1;", 0);
         fault("123;", 0);
@@ -778,6 +786,7 @@ public final class PromiseTests {
         x.day(1);
         way(x, 3, 0, 1, 2, 3);
         asked(x, "by other stones", () -> x.gain(3, 0), 2);
+        asked(x, "1 grain", () -> x.gain(1, 0), 0);
         asked(x, "one way", () -> x.gain(5, 0), 4);
         asked(x, "no way", () -> x.gain(7, 0), -10000);
         asked(x, "none lent", () -> x.gain(3, 1), -10000);
@@ -988,6 +997,9 @@ public final class PromiseTests {
         asked(none, "nobody", none::lift, NONE);
         WidowWeight y = with(0, 0, 1, 0, 0, 3, 0, 0, 2, 0, 0, 3);
         asked(y, "held alike part best", y::lift, 8 * 1 + 3);
+        WidowWeight z = with(0, 0, 5, 0, 0, 5, 0, 0, 5);
+        z.reading(1, 2, 1);
+        asked(z, "0 heavier or 1 lighter: 0 against 2 tells", z::lift, 2);
     }
 
     private static void note() {
@@ -1241,6 +1253,10 @@ public final class PromiseTests {
         WidowWeight low = by("market;keeper 0 0 1;keeper 0 0 1;mood 1 0;keeper 0 0 1;keeper 0 0 1;mood 3 2;");
         asked(low, "a mood too low", () -> low.years(1, 1), 0);
         asked(low, "a mood that has risen", () -> low.years(1, 4), 1);
+        WidowWeight long3 = seven(3);
+        for (int seed : new int[] {0, 1, 77, 4096, 31337, 500000, 999999}) {
+            asked(long3, "seed " + seed, () -> long3.years(seed, 60), mondayYears(seed));
+        }
         bad(plain, "seed -1", () -> plain.years(-1, 0));
         bad(plain, "seed 1000000", () -> plain.years(1000000, 0));
         bad(plain, "-1 days", () -> plain.years(0, -1));
@@ -1251,6 +1267,28 @@ public final class PromiseTests {
         WidowWeight willing = seven(0);
         asked(willing, "the longest", () -> willing.years(999999, 60), 60);
         asked(willing, "seed 0", () -> willing.years(0, 60), 60);
+    }
+
+    /** Sixty days of seven monday keepers from day 0, by moods alone. */
+    private static int mondayYears(int seed) {
+        int[] moods = {5, 5, 5, 5, 5, 5, 5};
+        long x = seed;
+        int lent = 0;
+        for (int d = 0; d < 60; d++) {
+            x = x * 1103515245L + 12345L & 0x7FFFFFFFL;
+            int k = (int) ((x >> 16) % 7);
+            int gift = (int) ((x >> 20) % 10);
+            if (lends(3, d, moods[k], gift)) {
+                lent++;
+                moods[k] = Math.min(9, moods[k] + gift / 3);
+            } else {
+                moods[k] = Math.max(0, moods[k] - 1);
+            }
+            for (int i = 0; i < 7; i++) {
+                moods[i] -= Integer.signum(moods[i] - 5);
+            }
+        }
+        return lent;
     }
 
     private static WidowWeight seven(int kind) {
@@ -1273,6 +1311,9 @@ public final class PromiseTests {
         due("below", x.part(1), 5);
         bad(x, "what -1", () -> x.part(-1));
         bad(x, "what 2", () -> x.part(2));
+        due("it stays when asked", x.part(0), 3);
+        x.refusals(8, 0, 4);
+        due("it stays when refused", x.part(1), 5);
     }
 
     private static void image() {
