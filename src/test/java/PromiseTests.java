@@ -321,6 +321,10 @@ public final class PromiseTests {
         fault(" ;", 1);
         fault("keeper 0 0 1;", 0);
         fault("days 1;market;", 0);
+        fault("balance 0;market;", 0);
+        fault("mood 0 5;", 0);
+        fault("marketz;", 0);
+        fault("marketa;", 0);
         fault("market;market;", 7);
         fault("marketmarket;", 0);
         fault("markets;", 0);
