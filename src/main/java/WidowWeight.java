@@ -966,6 +966,7 @@ public final class WidowWeight {
         private static final int START = MOST_KEEPERS;
         private static final int WIDTH = MOST_KEEPERS + 1;
         private static final int ROUND = LAST_HOUSE + 1;
+        private static final int MORE_THAN_ANY = 1000000;
 
         private final Row hoursLeft = new Row((1 << MOST_KEEPERS) * WIDTH);
         private final Row houses = new Row(WIDTH);
@@ -1017,9 +1018,9 @@ public final class WidowWeight {
 
         private int firstBest(int left, int at) {
             int best = 0;
-            int least = Integer.MAX_VALUE;
+            int least = MORE_THAN_ANY;
             for (int k = 0; k < MOST_KEEPERS; k++) {
-                int hours = hasBit(left, k) ? hoursBy(left, at, k) : Integer.MAX_VALUE;
+                int hours = hasBit(left, k) ? hoursBy(left, at, k) : MORE_THAN_ANY;
                 if (hours < least) {
                     best = k;
                     least = hours;
