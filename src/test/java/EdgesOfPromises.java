@@ -175,9 +175,11 @@ public final class EdgesOfPromises {
             due("the text, the fraction, the status stay, " + i, are[i], were[i]);
         }
         due("no day can be undone", x.undo(), NO);
-        due("a first keeper", x.keeper(0, 0, 1), 0);
-        due("its mood", x.of(0, 4), 5);
-        due("it is not lent", x.of(0, 5), 0);
+        due("a first keeper", x.keeper(1, 11, 99), 0);
+        int[] anew = {1, 11, 99, 99, 5, 0};
+        for (int what = 0; what <= 5; what++) {
+            due("its " + what, x.of(0, what), anew[what]);
+        }
         due("a first balance", x.balance(0), 0);
         due("all kinds may be it", x.who(0), 63);
         due("all kinds may be it", x.is(0), 63);

@@ -90,6 +90,7 @@ public final class EdgesOfTerms {
 
     private static void stones() {
         thenBeyondTheLastDay();
+        wrappingFromEachDay();
         fewestStonesLeastCode();
         gainOfAllWays();
         theShorterWayRound();
@@ -102,7 +103,9 @@ public final class EdgesOfTerms {
         notesAtTheirEnds();
         watchFromDayZero();
         laidGrains();
+        liftsBothWays();
         pairsThatRest();
+        giftsAndKeepersOfYears();
         yearsBeyondTheLastDay();
     }
 
@@ -226,7 +229,6 @@ public final class EdgesOfTerms {
             due("a gift of 4 on day " + day, x.visit(0, 4), day % 7 == 0 ? 1 : 0);
             x.from(0);
         }
-        due("9996 is one", 9996 % 7, 0);
     }
 
     private static void noneIsLentAtFirst() {
@@ -702,6 +704,13 @@ public final class EdgesOfTerms {
         fault("z;", 0);
         fault("marke;", 0);
         fault("markett;", 0);
+        fault("marketz;", 0);
+        fault("marketa;", 0);
+        fault("xarket;", 0);
+        fault("market;xeeper 0 0 1;", 7);
+        fault("market;keeper 0 0 1;xood 0 5;", 20);
+        fault("market;xalance 0;", 7);
+        fault("market;xays 1;", 7);
         fault("amarket;", 0);
         fault("market;keepe 0 0 1;", 7);
         fault("market;keeperr 0 0 1;", 7);
@@ -805,6 +814,14 @@ public final class EdgesOfTerms {
             due("the text is read again", x.read(), 3);
             due("an image stays", x.from(0), 1);
             due("its second keeper", x.of(1, 0), start.make().of(1, 0));
+            due("read once more", Twins.read(x, "market;keeper 5 7 50;mood 0 3;keeper 1 11 99;days 1;"), 5);
+            int[][] told = {{5, 7, 51, 50, 4, 0}, {1, 11, 98, 99, 5, 0}};
+            for (int k = 0; k <= 1; k++) {
+                for (int what = 0; what <= 5; what++) {
+                    due("of " + k + " " + what, x.of(k, what), told[k][what]);
+                }
+            }
+            due("no balance any more", x.who(0), BAD);
         }
     }
 
@@ -826,6 +843,22 @@ public final class EdgesOfTerms {
         due("off in 98 days", x.off(0, 49), 98);
         due("not in 99 days", x.off(0, 50), NONE);
         due("the day stays", x.count(2), 9999);
+    }
+
+    private static void wrappingFromEachDay() {
+        Twins.sentence("THEN, OFF: from the DAY that is");
+        int[] more = {1, 0, 0, 1, 0, 0};
+        for (int day = 0; day < 6; day++) {
+            WidowWeight x = Twins.onDay(new WidowWeight(), day);
+            x.keeper(WRAPPING, 0, 9);
+            int is = 9;
+            for (int m = 0; m <= 9; m++) {
+                due("on day " + day + " in " + m, x.then(0, m), is);
+                is += more[(day + m) % 6];
+            }
+            due("on day " + day + " off first", x.off(0, 1), day % 3 == 0 ? 1 : 4 - day % 3);
+            due("on day " + day + " off by 33", x.off(0, 33), 96 + (day % 3 == 0 ? 1 : 4 - day % 3));
+        }
     }
 
     private static void fewestStonesLeastCode() {
@@ -933,6 +966,31 @@ public final class EdgesOfTerms {
         due("empty pans never tip", x.maybe(0) + x.maybe(1), 0);
     }
 
+    private static void liftsBothWays() {
+        Twins.sentence("LIFT: of all that may be (lighter ones and heavier ones)");
+        WidowWeight x = new WidowWeight();
+        for (int k = 0; k < 3; k++) {
+            x.keeper(PLAIN, 0, 5);
+        }
+        x.reading(1, 2, 1);
+        due("1 lighter", x.maybe(0), 2);
+        due("0 heavier", x.maybe(1), 1);
+        due("0 and 1 tip alike for both, 0 and 2 do not", x.lift(), 2);
+        x.forget(0);
+        x.reading(2, 1, 1);
+        due("0 lighter", x.maybe(0), 1);
+        due("1 heavier", x.maybe(1), 2);
+        due("0 and 2 again", x.lift(), 2);
+        x.forget(0);
+        x.reading(1, 2, 0);
+        due("2 alone, lighter or heavier: the first pair with it", x.lift(), 2);
+        x.forget(0);
+        x.reading(3, 4, 1);
+        due("any one lighter", x.maybe(0), 7);
+        due("any one heavier", x.maybe(1), 7);
+        due("any one of them may be off: the first pair", x.lift(), 1);
+    }
+
     private static void notesAtTheirEnds() {
         Twins.sentence("NOTES: a STONE that was g (1 .. 250) was h (1 .. 250) behind DAY d (0 .. 99)");
         WidowWeight x = one(PLAIN, 1);
@@ -992,6 +1050,21 @@ public final class EdgesOfTerms {
             due("a fifth", x.buyers(0, 4), -5);
             due("a plain one: more gets it for less than 8", x.buyers(1, NONE), 0);
         }
+    }
+
+    private static void giftsAndKeepersOfYears() {
+        Twins.sentence("YEARS: X by 65536 (cut), by 7 left over, is a KEEPER; X by 1048576 (cut), by 10 left over, the GIFT");
+        WidowWeight x = Twins.told("market;days 1;" + "keeper3 0 1;".repeat(7));
+        due("X is 1605 times 1048576: 5", x.years(501379, 1), 1);
+        due("X is just below 1495 times 1048576: 4", x.years(396682, 1), 0);
+        WidowWeight one = one(PLAIN, 1);
+        due("X is 1 more than a number of times 65536: keeper 0", one.years(233960, 1), 1);
+        due("X is 1 less than a number of times 65536: keeper 6", one.years(637726, 1), 0);
+        due("X is 2147482477: keeper 0", one.years(518020, 1), 1);
+        due("X is 2208: keeper 0", one.years(388515, 1), 1);
+        WidowWeight seven = Twins.told("market;" + "keeper2 0 1;".repeat(6) + "keeper0 0 1;");
+        due("keeper 6", seven.years(637726, 1), 1);
+        due("keeper 0", seven.years(233960, 1), 0);
     }
 
     private static void yearsBeyondTheLastDay() {

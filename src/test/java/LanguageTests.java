@@ -1,14 +1,23 @@
 import java.io.IOException;
+import java.io.PrintWriter;
+import java.io.StringWriter;
+import java.lang.management.ManagementFactory;
 import java.lang.reflect.Constructor;
 import java.lang.reflect.Field;
 import java.lang.reflect.Method;
 import java.lang.reflect.Modifier;
 import java.nio.file.Files;
 import java.nio.file.Path;
+import java.util.ArrayList;
+import java.util.HashMap;
+import java.util.List;
+import java.util.Map;
 import java.util.Set;
 import java.util.TreeSet;
 import java.util.regex.Matcher;
 import java.util.regex.Pattern;
+import java.util.spi.ToolProvider;
+import java.util.stream.Stream;
 
 /** The rules of ../shared/LANGUAGE.md that can be seen from outside: the face, the words used, how long methods are. */
 public final class LanguageTests {
@@ -33,7 +42,10 @@ public final class LanguageTests {
         face();
         names();
         words(code);
+        library(code);
         lengths(code);
+        depths();
+        room();
         for (int i = 0; i < source.length(); i++) {
             if (source.charAt(i) > 126) {
                 Check.that("a plain sign at " + i, false);
@@ -114,6 +126,128 @@ public final class LanguageTests {
         Check.that("no lambda", !code.contains("->"));
         Check.that("no method reference", !code.contains("::"));
         Check.that("no joining of texts by +", !Pattern.compile("\"\\s*\\+|\\+\\s*\"").matcher(code).find());
+    }
+
+    /** Of the classes that the library has, only these functions; constants of Integer, too, are not listed. */
+    private static void library(String code) {
+        Set<String> fine = Set.of("Integer.bitCount", "Integer.compare", "Math.abs", "Math.max", "Math.min");
+        Matcher m = Pattern.compile("\\b(?:Integer|Long|Math|Arrays|String|StringBuilder|Character|Boolean)\\.\\w+").matcher(code);
+        while (m.find()) {
+            Check.that("in the library's list: " + m.group(), fine.contains(m.group()));
+        }
+        Check.that("no list, no builder", !Pattern.compile("\\b(?:ArrayList|List|StringBuilder)\\b").matcher(code).find());
+    }
+
+    /** Calls that are no recursion go at most eight deep; the class has no recursion. */
+    private static void depths() throws IOException {
+        Map<String, Set<String>> calls = calls();
+        Check.that("calls were found: " + calls.size(), calls.size() > 100);
+        for (String method : calls.keySet()) {
+            int deep = depth(calls, method, 1);
+            Check.that("eight deep at most: " + method + " goes " + deep, deep <= 8);
+        }
+    }
+
+    private static int depth(Map<String, Set<String>> calls, String method, int above) {
+        int deepest = above;
+        for (String called : calls.get(method)) {
+            if (above <= 8 && calls.containsKey(called)) {
+                deepest = Math.max(deepest, depth(calls, called, above + 1));
+            }
+        }
+        return deepest;
+    }
+
+    /** By javap: for each method of the class and those inside it the methods that it calls. */
+    private static Map<String, Set<String>> calls() throws IOException {
+        List<String> words = new ArrayList<>(List.of("-c", "-p", "-s"));
+        Path home = Path.of(WidowWeight.class.getProtectionDomain().getCodeSource().getLocation().getPath());
+        try (Stream<Path> files = Files.list(home)) {
+            files.map(Path::toString).filter(f -> f.matches(".*WidowWeight(\\$\\w+)?\\.class")).forEach(words::add);
+        }
+        StringWriter told = new StringWriter();
+        ToolProvider.findFirst("javap").orElseThrow().run(new PrintWriter(told), new PrintWriter(told),
+            words.toArray(new String[0]));
+        Map<String, Set<String>> calls = new HashMap<>();
+        String owner = "";
+        String name = "";
+        String method = "";
+        for (String line : told.toString().split("\\R")) {
+            Matcher opens = Pattern.compile("class (\\S+) \\{").matcher(line);
+            Matcher heads = Pattern.compile("^  \\S.*?([\\w$]+)\\(.*\\);").matcher(line);
+            Matcher shape = Pattern.compile("^    descriptor: (\\S+)").matcher(line);
+            Matcher invoked = Pattern.compile("// (?:Interface)?Method (?:(\\S+)\\.)?([^.:]+):(\\S+)").matcher(line);
+            if (opens.find()) {
+                owner = opens.group(1);
+            } else if (heads.find()) {
+                name = heads.group(1).equals(owner) ? "\"<init>\"" : heads.group(1);
+            } else if (shape.find() && !name.isEmpty()) {
+                method = owner + "." + name + shape.group(1);
+                calls.put(method, new TreeSet<>());
+                name = "";
+            } else if (invoked.find()) {
+                calls.get(method).add((invoked.group(1) == null ? owner : invoked.group(1)) + "." + invoked.group(2) + invoked.group(3));
+            }
+        }
+        return calls;
+    }
+
+    /** All calls of a run share one room: an object is small, and its calls make nothing. */
+    private static void room() {
+        com.sun.management.ThreadMXBean told = (com.sun.management.ThreadMXBean) ManagementFactory.getThreadMXBean();
+        WidowWeight x = Twins.full();
+        everyCall(x);
+        long before = told.getThreadAllocatedBytes(Thread.currentThread().getId());
+        new WidowWeight();
+        long made = told.getThreadAllocatedBytes(Thread.currentThread().getId());
+        for (int i = 0; i < 5; i++) {
+            everyCall(x);
+        }
+        long called = told.getThreadAllocatedBytes(Thread.currentThread().getId());
+        Check.that("an object is small: " + (made - before), made - before < 40000);
+        Check.that("calls make nothing: " + (called - made), called - made < 1000);
+    }
+
+    private static void everyCall(WidowWeight x) {
+        x.from(0);
+        x.image(1);
+        x.undo();
+        x.visit(0, 9);
+        x.day(9);
+        x.held(1, 9);
+        x.load(999, 0, 0);
+        x.gain(5, 1);
+        x.round(127, 6);
+        x.round(127, -1);
+        x.gifts(127);
+        x.tips(3, 3, 4);
+        x.forget(0);
+        x.reading(1, 2, 0);
+        x.maybe(1);
+        x.lift();
+        x.forget(1);
+        x.note(0, 9, 0, 9);
+        x.is(0);
+        x.watch(0);
+        x.forget(2);
+        x.tipped(0, 9, 9, 0);
+        x.who(0);
+        x.lay(0);
+        x.buyers(2, -1);
+        x.refusals(127, 9, 5);
+        x.years(999999, 60);
+        x.then(0, 99);
+        x.off(0, 99);
+        x.digest();
+        x.read();
+        x.market();
+        x.keeper(1, 1, 1);
+        x.balance(1);
+        x.type(256);
+        x.status(0);
+        x.part(0);
+        x.count(4);
+        x.of(0, 0);
     }
 
     private static void lengths(String code) {
