@@ -217,7 +217,7 @@ public final class RandomRuns {
         int k = keeper();
         int m = about(0, 99);
         int x = below(2) == 0 ? about(1, 9) : about(1, 99);
-        int l = below(2) == 0 ? about(1, 30) : about(1, 999);
+        int l = below(3) > 0 ? levelLoad() : about(1, 999);
         int lent = about(0, 1);
         int what = about(0, 2);
         int bits = stones();
@@ -257,13 +257,9 @@ public final class RandomRuns {
     private void askDoubts(int which) {
         int k = keeper();
         int b = balance();
-        int left = stones();
-        int right = apartFrom(left);
-        int t = about(-1, 1);
         switch (which) {
             case 0:
-                same("reading " + left + " " + right + " " + t, () -> mine.reading(left, right, t),
-                    () -> due.reading(left, right, t));
+                reading();
                 break;
             case 1:
                 int what = about(0, 1);
@@ -276,10 +272,7 @@ public final class RandomRuns {
                 note(k);
                 break;
             case 4:
-                int l = below(2) == 0 ? about(0, 9) : about(0, 999);
-                int r = below(2) == 0 ? about(0, 9) : about(0, 999);
-                same("tipped " + b + " " + l + " " + r + " " + t, () -> mine.tipped(b, l, r, t),
-                    () -> due.tipped(b, l, r, t));
+                tipped(b);
                 break;
             case 5:
                 int row = about(0, 2);
@@ -299,10 +292,37 @@ public final class RandomRuns {
         }
     }
 
+    /** A load that some way to lay the stones makes level, where there is one. */
+    private int levelLoad() {
+        int sum = 0;
+        for (Reference.Keeper k : due.world.keepers) {
+            sum += (below(3) - 1) * k.held;
+        }
+        return sum == 0 ? about(1, 30) : Math.abs(sum);
+    }
+
+    /** Mostly as it would tip with one stone off, so that readings seldom leave nothing that may be. */
+    private void reading() {
+        int left = stones();
+        int right = apartFrom(left);
+        int t = below(4) > 0 ? due.tipIfOff(left, right, below(7), below(2) * 2 - 1) : about(-1, 1);
+        same("reading " + left + " " + right + " " + t, () -> mine.reading(left, right, t),
+            () -> due.reading(left, right, t));
+    }
+
+    /** Mostly as one of the kinds would tip. */
+    private void tipped(int b) {
+        int l = below(2) == 0 ? about(0, 9) : about(0, 999);
+        int r = below(2) == 0 ? about(0, 9) : about(0, 999);
+        int t = below(4) > 0 ? Reference.BALANCES.get(below(6)).applyAsInt(l, r) : about(-1, 1);
+        same("tipped " + b + " " + l + " " + r + " " + t, () -> mine.tipped(b, l, r, t), () -> due.tipped(b, l, r, t));
+    }
+
+    /** Mostly what one of the kinds would be. */
     private void note(int k) {
-        int g = about(1, 250);
+        int g = below(3) == 0 ? about(1, 3) : about(1, 250);
         int d = about(0, 99);
-        int h = about(g - 2, g + 1);
+        int h = below(4) > 0 ? Reference.KEEPERS[below(6)].next(g, d) : about(g - 2, g + 1);
         same("note " + k + " " + g + " " + d + " " + h, () -> mine.note(k, g, d, h), () -> due.note(k, g, d, h));
     }
 

@@ -548,7 +548,7 @@ final class Reference {
         return world.readings.size();
     }
 
-    private int lay(int left, int right, int off, int by) {
+    int tipIfOff(int left, int right, int off, int by) {
         int[] pan = new int[2];
         for (int k = 0; k < world.keepers.size(); k++) {
             int grains = world.keepers.get(k).held + (k == off ? by : 0);
@@ -565,7 +565,7 @@ final class Reference {
             for (int by = -1; by <= 1; by += 2) {
                 boolean fits = true;
                 for (int[] r : world.readings) {
-                    fits &= lay(r[0], r[1], k, by) == r[2];
+                    fits &= tipIfOff(r[0], r[1], k, by) == r[2];
                 }
                 if (fits) {
                     all.add(new int[] {k, by});
@@ -598,7 +598,7 @@ final class Reference {
             for (int j = n - 1; j > i; j--) {
                 Map<Integer, Integer> parts = new HashMap<>();
                 for (int[] s : all) {
-                    parts.merge(lay(1 << i, 1 << j, s[0], s[1]), 1, Integer::sum);
+                    parts.merge(tipIfOff(1 << i, 1 << j, s[0], s[1]), 1, Integer::sum);
                 }
                 if (greatest(parts) <= least) {
                     least = greatest(parts);
